@@ -864,7 +864,8 @@ public final class Rosterproof {
                         continue;
                     }
                     change(cell, value);
-                    boolean isMended = findLast(isGuided ? touchingBesides(cell) : cellsAfter(cell), 1);
+                    int others = isGuided ? touching(left.breachAt(0)) & ~(1 << cell) : cellsAfter(cell);
+                    boolean isMended = findLast(others, 1);
                     change(cell, before);
                     if (isMended) {
                         found.put(0, cell, value);
@@ -911,10 +912,6 @@ public final class Rosterproof {
         // In two steps, for Java takes a shift by 32 as one by 0.
         private static int cellsAfter(int cell) {
             return ALL << cell << 1;
-        }
-
-        private int touchingBesides(int cell) {
-            return touching(left.breachAt(0)) & ~(1 << cell);
         }
 
         /** Returns the cells that a breach hangs on: while none of them changes, it stays. */

@@ -10,7 +10,7 @@ import java.util.List;
 import java.util.Set;
 import java.util.TreeSet;
 
-/** The class has the face of the document and no other, and keeps to those rules of LANGUAGE.md that are easy to see. */
+/** The class has the document's face and no other, and keeps to those rules of LANGUAGE.md that are easy to see. */
 public final class FaceTest {
     private static final String[] FACE = {
         "int addPerson() throws IllegalStateException",
