@@ -1,177 +1,8 @@
-import java.util.ArrayList;
 import java.util.List;
-import java.util.function.Consumer;
 import java.util.function.Supplier;
 
 /** Each promise of the document by examples worked out by hand; the method pN tests promise N. */
-public final class PromiseTest {
-    private static final int MIN = Integer.MIN_VALUE;
-    private static final int MAX = Integer.MAX_VALUE;
-    private static final String BOUNDS = "IndexOutOfBoundsException";
-    private static final String NO_SUCH = "NoSuchElementException";
-    private static final String ARGUMENT = "IllegalArgumentException";
-    private static final String STATE = "IllegalStateException";
-
-    private static int wrong = 0;
-
-    private static void due(Object got, Object want) {
-        if (!got.equals(want)) {
-            wrong++;
-            System.out.println(place() + ": answered " + got + ", due is " + want);
-        }
-    }
-
-    private static String place() {
-        String place = "PromiseTest";
-        for (StackTraceElement element : new Throwable().getStackTrace()) {
-            if (element.getMethodName().matches("p[0-9]+[A-Za-z]*")) {
-                place = element.getMethodName() + " line " + element.getLineNumber();
-            }
-        }
-        return place;
-    }
-
-    private static String thrown(Runnable call) {
-        try {
-            call.run();
-            return "nothing";
-        } catch (RuntimeException e) {
-            return e.getClass().getSimpleName();
-        }
-    }
-
-    /** The call on a new object throws just this exception, and all that can be seen stays as it was. */
-    private static void refuses(Supplier<Rosterproof> maker, String exception, Consumer<Rosterproof> call) {
-        Rosterproof x = maker.get();
-        String before = seen(x);
-        due(thrown(() -> call.accept(x)), exception);
-        due(seen(x), before);
-    }
-
-    private static String seen(Rosterproof x) {
-        StringBuilder seen = new StringBuilder();
-        for (int person = 0; person < 4; person++) {
-            for (int day = 0; day < 8 && hasPerson(x, person); day++) {
-                boolean isAbsent = x.setAbsent(person, day, false);
-                x.setAbsent(person, day, isAbsent);
-                seen.append(x.shiftOf(person, day)).append(isAbsent ? "a " : " ");
-            }
-            seen.append(hasPerson(x, person) ? x.peak(person) + "\n" : "none\n");
-        }
-        for (int shift = 0; shift < 3; shift++) {
-            for (int day = 0; day < 8 && hasShift(x, shift); day++) {
-                int demand = x.setDemand(day, shift, 0);
-                x.setDemand(day, shift, demand);
-                seen.append(demand).append(' ');
-            }
-            seen.append(hasShift(x, shift) ? x.isNight(shift) + "\n" : "none\n");
-        }
-        int rest = x.setRest(0);
-        int nights = x.setNights(1);
-        int run = x.setRun(1);
-        x.setRest(rest);
-        x.setNights(nights);
-        x.setRun(run);
-        return seen.append(rest + " " + nights + " " + run + " " + x.minutes() + " " + list(x) + changes(x)).toString();
-    }
-
-    private static boolean hasPerson(Rosterproof x, int person) {
-        return thrown(() -> x.shiftOf(person, 0)).equals("nothing");
-    }
-
-    private static boolean hasShift(Rosterproof x, int shift) {
-        return thrown(() -> x.isNight(shift)).equals("nothing");
-    }
-
-    /** The breaches, each as its kind, person, day and shift. */
-    private static String list(Rosterproof x) {
-        List<String> list = new ArrayList<>();
-        for (int i = 0; i < x.breaches(); i++) {
-            list.add("" + x.breachKind(i) + " " + x.breachPerson(i) + " " + x.breachDay(i) + " " + x.breachShift(i));
-        }
-        return String.join(", ", list);
-    }
-
-    /** The changes of the last mend(), each as its cell and value. */
-    private static String changes(Rosterproof x) {
-        List<String> changes = new ArrayList<>();
-        for (int i = 0; i < 2; i++) {
-            int index = i;
-            if (thrown(() -> x.changedCell(index)).equals("nothing")) {
-                changes.add(x.changedCell(i) + "=" + x.changedValue(i));
-            }
-        }
-        return String.join(" ", changes);
-    }
-
-    /** Persons with the skill for each of the shifts, which are given by their starts and lengths. */
-    private static Rosterproof skilled(int persons, int... shifts) {
-        Rosterproof x = new Rosterproof();
-        for (int i = 0; i < shifts.length; i += 2) {
-            x.addShift(shifts[i], shifts[i + 1]);
-        }
-        for (int person = 0; person < persons; person++) {
-            x.addPerson();
-            for (int shift = 0; shift < shifts.length / 2; shift++) {
-                x.teach(person, shift);
-            }
-        }
-        return x;
-    }
-
-    /** Two persons; shift 0 is by day, 8 to 16, shift 1 by night, 22 to 7. */
-    private static Rosterproof pair() {
-        return skilled(2, 480, 480, 1320, 540);
-    }
-
-    /** Gives a person a shift for each day whose sign is a digit. */
-    private static Rosterproof fill(Rosterproof x, int person, String shifts) {
-        for (int day = 0; day < shifts.length(); day++) {
-            if (shifts.charAt(day) != '.') {
-                x.assign(person, day, shifts.charAt(day) - '0');
-            }
-        }
-        return x;
-    }
-
-    /** Two persons whose roster has breaches, an absence, a demand and a mended change behind it. */
-    private static Rosterproof busy() {
-        Rosterproof x = pair();
-        x.assign(0, 0, 1);
-        x.assign(0, 1, 0);
-        x.mend();
-        x.assign(1, 6, 1);
-        x.assign(1, 7, 0);
-        x.setAbsent(1, 7, true);
-        x.setDemand(3, 1, 2);
-        return x;
-    }
-
-    /** Four persons and three shifts, everything given and everything against the rules. */
-    private static Rosterproof full() {
-        Rosterproof x = new Rosterproof();
-        x.addShift(1439, 720);
-        x.addShift(0, 1);
-        x.addShift(0, 720);
-        x.setRest(721);
-        x.setNights(1);
-        x.setRun(1);
-        x.setHours(1, 0);
-        for (int person = 0; person < 4; person++) {
-            x.addPerson();
-            fill(x, person, "00000000");
-            for (int day = 0; day < 8; day++) {
-                x.setAbsent(person, day, true);
-            }
-        }
-        for (int day = 0; day < 8; day++) {
-            for (int shift = 0; shift < 3; shift++) {
-                x.setDemand(day, shift, 4);
-            }
-        }
-        return x;
-    }
-
+public final class PromiseTest extends TestBase {
     private static void p1() {
         Rosterproof x = new Rosterproof();
         due(x.breaches(), 0);
@@ -667,11 +498,10 @@ public final class PromiseTest {
     }
 
     private static void p26breaches() {
-        String unsupported = "UnsupportedOperationException";
         // The rest of person 0 before day 2 becomes right, and that of person 1 becomes wrong.
-        refuses(() -> fill(fill(pair(), 0, ".10"), 1, "..0"), unsupported, y -> y.swap(0, 1, 1));
+        refuses(() -> fill(fill(pair(), 0, ".10"), 1, "..0"), UNSUPPORTED, y -> y.swap(0, 1, 1));
         // The rest of person 0 before day 2 becomes right, and that before day 3 becomes wrong.
-        refuses(() -> fill(fill(pair(), 0, ".100"), 1, "..1"), unsupported, y -> y.swap(0, 1, 2));
+        refuses(() -> fill(fill(pair(), 0, ".100"), 1, "..1"), UNSUPPORTED, y -> y.swap(0, 1, 2));
         Rosterproof x = skilled(2);
         x.addShift(0, 60);
         x.addShift(600, 60);
@@ -684,10 +514,10 @@ public final class PromiseTest {
         due(list(x), "k 0 3 -1");
         due(x.shiftOf(0, 3), 1);
         x.free(0, 3);
-        due(thrown(() -> x.swap(0, 1, 3)), unsupported);
+        due(thrown(() -> x.swap(0, 1, 3)), UNSUPPORTED);
         due(x.shiftOf(1, 3), 0);
         x.setAbsent(1, 3, true);
-        due(thrown(() -> x.swap(1, 0, 3)), unsupported);
+        due(thrown(() -> x.swap(1, 0, 3)), UNSUPPORTED);
         x.teach(0, 0);
         due(x.swap(1, 0, 3), 0);
         due(x.shiftOf(0, 3), 0);
@@ -718,26 +548,6 @@ public final class PromiseTest {
         refuses(() -> skilled(1, 0, 1), NO_SUCH, y -> y.partner(0, 0));
     }
 
-    /** Both ways answer this number, -1 for an exception; nothing changes; mend() makes these changes. */
-    private static void least(Supplier<Rosterproof> maker, int want, String changes) {
-        Rosterproof x = maker.get();
-        String before = seen(x);
-        if (want < 0) {
-            due(thrown(x::leastChanges), NO_SUCH);
-            due(thrown(x::leastByTrial), NO_SUCH);
-            due(seen(x), before);
-            refuses(maker, NO_SUCH, Rosterproof::mend);
-            return;
-        }
-        due(x.leastChanges(), want);
-        due(x.leastByTrial(), want);
-        due(x.isSound(), true);
-        due(seen(x), before);
-        due(x.mend(), want);
-        due(changes(x), changes);
-        due(x.breaches(), 0);
-    }
-
     private static void p28() {
         least(Rosterproof::new, 0, "");
         least(() -> fill(pair(), 0, "0..1"), 0, "");
@@ -751,13 +561,6 @@ public final class PromiseTest {
         least(() -> unskilled("0.0....0"), -1, "");
     }
 
-    /** Four persons; the last one has shifts that it cannot do. */
-    private static Rosterproof unskilled(String shifts) {
-        Rosterproof x = skilled(4);
-        x.addShift(480, 480);
-        return fill(x, 3, shifts);
-    }
-
     private static void p29() {
         least(() -> demanding(1), 1, "2=1");
         least(() -> demanding(2), 2, "2=1 10=1");
@@ -768,12 +571,6 @@ public final class PromiseTest {
             x.setDemand(0, 0, 1);
             return x;
         }, -1, "");
-    }
-
-    private static Rosterproof demanding(int persons) {
-        Rosterproof x = skilled(4, 480, 480, 1320, 540);
-        x.setDemand(2, 0, persons);
-        return x;
     }
 
     private static void p30() {
@@ -914,7 +711,7 @@ public final class PromiseTest {
     private static void p35() {
         Rosterproof x = fill(fill(pair(), 0, "10.0"), 1, "0");
         due(x.meanRest(0), 1230.0);
-        due(thrown(() -> x.meanRest(1)), "ArithmeticException");
+        due(thrown(() -> x.meanRest(1)), ARITHMETIC);
         x.assign(1, 7, 1);
         due(x.meanRest(1), (double) (7 * 1440 + 1320 - 960));
         x.assign(0, 4, 1);
@@ -926,31 +723,18 @@ public final class PromiseTest {
         for (int person : new int[] {-1, 2, MIN, MAX}) {
             refuses(PromiseTest::busy, BOUNDS, y -> y.meanRest(person));
         }
-        refuses(() -> skilled(1, 0, 1), "ArithmeticException", y -> y.meanRest(0));
+        refuses(() -> skilled(1, 0, 1), ARITHMETIC, y -> y.meanRest(0));
     }
 
     private static void p36() {
-        for (Rosterproof x : List.of(new Rosterproof(), pair(), busy(), full(), unskilled("0......0"), demanding(2))) {
-            String before = seen(x);
-            due(x.isSound(), true);
-            due(seen(x), before);
+        List<Supplier<Rosterproof>> makers = List.of(Rosterproof::new, PromiseTest::pair, PromiseTest::busy,
+                PromiseTest::full, () -> unskilled("0......0"), () -> demanding(2));
+        for (Supplier<Rosterproof> maker : makers) {
+            changesNothing(maker, x -> due(x.isSound(), true));
         }
     }
 
     public static void main(String[] args) {
-        Runnable[] promises = {
-            PromiseTest::p1, PromiseTest::p1span, PromiseTest::p2, PromiseTest::p3, PromiseTest::p4, PromiseTest::p5,
-            PromiseTest::p6, PromiseTest::p7, PromiseTest::p8, PromiseTest::p9, PromiseTest::p10, PromiseTest::p11,
-            PromiseTest::p12, PromiseTest::p13, PromiseTest::p14, PromiseTest::p15, PromiseTest::p16,
-            PromiseTest::p17, PromiseTest::p18, PromiseTest::p19, PromiseTest::p20, PromiseTest::p20rows,
-            PromiseTest::p21, PromiseTest::p22, PromiseTest::p23, PromiseTest::p24, PromiseTest::p25,
-            PromiseTest::p26, PromiseTest::p26breaches, PromiseTest::p27, PromiseTest::p28, PromiseTest::p29,
-            PromiseTest::p30, PromiseTest::p30rows, PromiseTest::p31, PromiseTest::p32, PromiseTest::p33,
-            PromiseTest::p34, PromiseTest::p35, PromiseTest::p36,
-        };
-        for (Runnable promise : promises) {
-            promise.run();
-        }
-        System.exit(wrong == 0 ? 0 : 1);
+        runAll(PromiseTest.class);
     }
 }
